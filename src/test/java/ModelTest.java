@@ -123,7 +123,6 @@ public final class ModelTest {
   }
 
   private boolean askOn() {
-    drawPool();
     List<String> names = Calls.names();
     String name = names.get(draw.below(names.size()));
     switch (name) {
@@ -160,6 +159,7 @@ public final class ModelTest {
   }
 
   private boolean askPool(String name) {
+    drawPool();
     int n = about(0, oneIn(6) ? 40 : Math.max(1, model.numbersIn(unit, pool).size()));
     switch (name) {
       case "pools": return same(name, unit);
