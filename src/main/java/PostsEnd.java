@@ -367,7 +367,8 @@ public final class PostsEnd {
         if (refusal != 0) {
             return refuse(refusal);
         }
-        chooser.choose(pooling, n);
+        chooser.gather(pooling);
+        chooser.choose(n);
         if (!chooser.found) {
             return NONE;
         }
@@ -383,7 +384,8 @@ public final class PostsEnd {
         if (refusal != 0) {
             return refuse(refusal);
         }
-        chooser.choose(pooling, n);
+        chooser.gather(pooling);
+        chooser.choose(n);
         return chooser.goes(pooling.placeOf(one)) ? 1 : 0;
     }
 
@@ -628,6 +630,8 @@ public final class PostsEnd {
         }
         return m > MOST_MORE || w > MOST_WEEKS || step > MOST_STEP || pay > MOST_PAY ? ROOM : 0;
     }
+
+    // ---- what follows from numbers alone
 
     private static boolean isPlace(int place) {
         return place >= 0 && place < PLACES;
@@ -910,18 +914,14 @@ public final class PostsEnd {
         }
 
         int partAsOf(Person one, int which, int k) {
+            Post held = one.held;
             switch (which) {
                 case WORK: return one.toldAsOf(WORK, k);
-                case SKILL: return skillHeld(one);
+                case SKILL: return held == null ? 0 : skillFor(one, held);
                 case RECORD: return recordOf(one.toldAsOf(FAULTS, k));
                 case YEARS: return Math.min(5 * wholeYears(one), 100);
                 default: return 0;
             }
-        }
-
-        int skillHeld(Person one) {
-            Post post = one.held;
-            return post == null ? 0 : skillFor(one, post);
         }
 
         int recordOf(int faults) {
@@ -934,10 +934,6 @@ public final class PostsEnd {
                 mark += weighed[which] * partAsOf(one, which, k);
             }
             return mark;
-        }
-
-        int markNow(Person one) {
-            return markAsOf(one, day);
         }
 
         int fitFor(Person one, Post post) {
@@ -1151,7 +1147,7 @@ public final class PostsEnd {
                 Person one = pools.memberAt(i);
                 if (one != null && size < MOST_PEOPLE && !firm.isProtected(one)) {
                     row[size] = one;
-                    marks[size] = firm.markNow(one);
+                    marks[size] = firm.markAsOf(one, firm.day);
                     size++;
                 }
             }
@@ -1286,22 +1282,7 @@ public final class PostsEnd {
             this.firm = firm;
         }
 
-        /** Sets are tried from the least bits on, so a later one must be better in earnest. */
-        void choose(Pools pools, int n) {
-            gather(pools);
-            found = false;
-            for (int tried = 0; tried < 1 << size; tried++) {
-                if (Integer.bitCount(tried) == n && (tried & barred) == 0 && keepsSkills(tried)) {
-                    weigh(tried);
-                }
-            }
-        }
-
-        boolean goes(int place) {
-            return found && place >= 0 && place < size && (set >> place & 1) == 1;
-        }
-
-        private void gather(Pools pools) {
+        void gather(Pools pools) {
             size = Math.min(pools.members, MOST_CHOOSABLE);
             barred = 0;
             willing = 0;
@@ -1315,13 +1296,27 @@ public final class PostsEnd {
             gatherLeast(pools.wanted());
         }
 
+        /** Sets are tried from the least bits on, so a later one must be better in earnest. */
+        void choose(int n) {
+            found = false;
+            for (int tried = 0; tried < 1 << size; tried++) {
+                if (Integer.bitCount(tried) == n && (tried & barred) == 0 && keepsSkills(tried)) {
+                    weigh(tried);
+                }
+            }
+        }
+
+        boolean goes(int place) {
+            return found && place >= 0 && place < size && (set >> place & 1) == 1;
+        }
+
         private void gatherOne(int place, Person one) {
             if (place < 0 || place >= MOST_CHOOSABLE) {
                 return;
             }
             int bit = 1 << place;
             costs[place] = firm.severanceOf(one) + Math.max(one.sum, 0);
-            marks[place] = firm.markNow(one);
+            marks[place] = firm.markAsOf(one, firm.day);
             if (one.isVolunteer()) {
                 willing |= bit;
             } else if (firm.isProtected(one)) {
@@ -1405,7 +1400,7 @@ public final class PostsEnd {
         private void gatherMarks() {
             for (int i = 0; i < firm.people && i < MOST_PEOPLE; i++) {
                 Person one = firm.personAt(i);
-                marks[i] = one == null ? 0 : firm.markNow(one);
+                marks[i] = one == null ? 0 : firm.markAsOf(one, firm.day);
             }
         }
 
