@@ -9,6 +9,7 @@ import java.util.TreeMap;
 /** Calls of the public face by name, so that runs of calls can be written down as text. */
 final class Calls {
   private static final Map<String, Method> FACE = face(PostsEnd.class);
+  private static final Map<String, Method> MODEL = face(Model.class);
 
   private Calls() {
   }
@@ -31,12 +32,9 @@ final class Calls {
     return FACE.get(name).getParameterCount();
   }
 
+  /** Asks the program or the model. */
   static int ask(Object object, String name, int... arguments) {
-    Method method = object instanceof PostsEnd ? FACE.get(name) : face(object.getClass()).get(name);
-    return ask(object, method, name, arguments);
-  }
-
-  static int ask(Object object, Method method, String name, int... arguments) {
+    Method method = (object instanceof Model ? MODEL : FACE).get(name);
     if (method == null || method.getParameterCount() != arguments.length) {
       throw new IllegalArgumentException("no such call: " + text(name, arguments));
     }

@@ -1,13 +1,10 @@
-import java.lang.reflect.Method;
 import java.util.ArrayList;
 import java.util.List;
-import java.util.Map;
 
 /** Long runs of calls drawn by a fixed rule, each answered by the program and by the model alike. */
 public final class ModelTest {
   private static final int RUNS = Integer.getInteger("runs", 1000);
   private static final int CALLS = 512;
-  private static final Map<String, Method> MODEL = Calls.face(Model.class);
 
   private final Draw draw;
   private final PostsEnd program = new PostsEnd();
@@ -56,7 +53,7 @@ public final class ModelTest {
 
   private boolean same(String name, int... arguments) {
     int got = Calls.ask(program, name, arguments);
-    int want = Calls.ask(model, MODEL.get(name), name, arguments);
+    int want = Calls.ask(model, name, arguments);
     told.add(Calls.text(name, arguments) + " answered " + got + (got == want ? "" : ", the model says " + want));
     return got == want;
   }

@@ -78,6 +78,18 @@ final class Runs {
     return all;
   }
 
+  /** One run told as text, without quotes. */
+  static Run of(String title, String text) {
+    Runs one = new Runs();
+    one.runs.add(new Run(title, new ArrayList<>()));
+    text.lines().map(line -> line.replaceAll("//.*", "").trim()).filter(line -> !line.isEmpty())
+        .forEach(line -> one.readCall(title, line, 0));
+    if (!one.faults.isEmpty()) {
+      throw new IllegalArgumentException(one.faults.get(0));
+    }
+    return one.runs.get(0);
+  }
+
   private void readFile(Path file) throws IOException {
     String name = file.getFileName().toString();
     if (!name.matches("\\d\\d-\\w+\\.txt")) {
