@@ -5,6 +5,8 @@ import java.util.List;
 public final class AnyCallsTest {
   private static final int RUNS = Integer.getInteger("runs", 3000);
   private static final int CALLS = 512;
+  /** What calls behind the 512th answer is free, but they throw no more than others. */
+  private static final int MANY_CALLS = 5000;
   private static final int[] ODD = {
     Integer.MIN_VALUE, Integer.MIN_VALUE + 1, Integer.MIN_VALUE + 10, -1000000000, -20001, -20000, -366, -365, -10, -9, -2, -1,
     8, 9, 10, 11, 12, 13, 16, 17, 19, 20, 21, 39, 40, 41, 49, 50, 51, 59, 60, 61, 90, 99, 100, 101, 119, 120, 180, 200, 201,
@@ -19,7 +21,8 @@ public final class AnyCallsTest {
       PostsEnd other = new PostsEnd();
       List<String> told = new ArrayList<>();
       boolean wild = seed % 3 == 0;
-      for (int i = 0; i < CALLS; i++) {
+      int calls = seed % 20 == 0 ? MANY_CALLS : CALLS;
+      for (int i = 0; i < calls; i++) {
         String name = wild || i > 150 ? names.get(draw.below(names.size())) : builder(draw);
         int[] arguments = wild ? anyArguments(draw, name) : fairArguments(draw, name);
         told.add(Calls.text(name, arguments));
@@ -32,7 +35,7 @@ public final class AnyCallsTest {
         }
       }
     }
-    System.out.println(RUNS + " runs of " + CALLS + " calls, none threw");
+    System.out.println(RUNS + " runs of " + CALLS + " calls and more, none threw");
   }
 
   private static String builder(Draw draw) {

@@ -330,7 +330,7 @@ public final class BoundsTest {
     row("pools", "-1", unit);
     row("poolOf", "-1", unit, post);
     tryPools(unit, person);
-    tryChains(personHere);
+    tryChains();
     tryOffers(person, post);
     tryPlaces();
     row("back", "-1 -3", and(nobody(0, 4, 1), all(-3, 0, 2, 3, 4)));
@@ -353,7 +353,7 @@ public final class BoundsTest {
     row("moved", "-1 -4 -6", unit, nobody(0, 1, 0, 1), numbers(0, 40), only(1), numbers(0, 9));
   }
 
-  private void tryChains(Try[] personHere) {
+  private void tryChains() {
     Try[] holder = and(nobody(0, 4, 0, 1, 4), all(-3, 2, 3));
     row("chain", "-1 -3", holder);
     // the chain of 4 has one move, that of 0 none
