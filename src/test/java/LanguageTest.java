@@ -23,6 +23,7 @@ public final class LanguageTest {
   public static void main(String[] args) throws IOException {
     String code = withoutComments(Files.readString(SOURCE));
     words(code);
+    library(code);
     methodLengths(code);
     face(Files.readString(DOCUMENT));
     for (Class<?> type : types()) {
@@ -60,6 +61,19 @@ public final class LanguageTest {
     }
     if (code.chars().anyMatch(c -> c > 126)) {
       complain("the source has signs above 126");
+    }
+  }
+
+  /** Of the library only functions that rule 4 names, or their like over int and long. */
+  private static void library(String code) {
+    Set<String> allowed = Set.of("Math.max", "Math.min", "Math.abs", "Math.floorDiv", "Math.floorMod", "Integer.compare",
+        "Integer.bitCount", "Long.compare", "Long.bitCount", "Arrays.fill", "Arrays.copyOf", "Arrays.copyOfRange", "System.arraycopy");
+    Matcher used = Pattern.compile("\\b(?:Math|StrictMath|Integer|Long|Arrays|System|Character|Boolean|List|Runtime)\\.\\w+")
+        .matcher(code.replaceAll("import [^;]*;", ""));
+    while (used.find()) {
+      if (!allowed.contains(used.group())) {
+        complain("the source uses " + used.group());
+      }
     }
   }
 
